@@ -40,7 +40,7 @@ public final class SqueezedVolume {
     /** Stays true when power fails in a squeeze: mount() then ends it. */
     private boolean squeezing;
 
-    /** The first block, counted in the file that is being moved, of the group that is being copied; NONE between moves. */
+    /** The first block, counted in the file that is being moved, of the group under way; NONE between moves. */
     private int ledger;
 
     public SqueezedVolume() {

@@ -1,4 +1,4 @@
-/** Long runs of calls, the same on the volume and on the model; every answer and all that can be seen must be the same. */
+/** Long runs of calls on the volume and on the model: every answer and all that can be seen must be the same. */
 final class ModelTests {
     private static final int CALLS = 512;
     private static final int[] STRANGE = {-1, 0, 16, 48, 49, 1000, -2, Integer.MIN_VALUE, Integer.MAX_VALUE};

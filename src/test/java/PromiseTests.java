@@ -43,6 +43,7 @@ final class PromiseTests {
         Check.run("9: squeeze cut", PromiseTests::squeezeCut);
         Check.run("10: mount", PromiseTests::mountMounts);
         Check.run("10: mount goes on with the move", PromiseTests::mountGoesOn);
+        Check.run("10: mount leaves what was not broken off", PromiseTests::mountLeavesOthers);
         Check.run("10: mount refuses", PromiseTests::mountRefuses);
         Check.run("11: cutAfter", PromiseTests::cutAfterCuts);
         Check.run("11: cutAfter refuses", PromiseTests::cutAfterRefuses);
@@ -524,6 +525,13 @@ final class PromiseTests {
         Check.due("refused calls write nothing", v.writes(), before);
         SqueezedVolume off = off();
         Check.thrown("power is off", STATE, off::squeeze);
+        SqueezedVolume cut = Volumes.without(Volumes.filled(2, 3), 1);
+        cut.cutAfter(1);
+        cut.squeeze();
+        before = cut.writes();
+        Check.thrown("power is off, no tentative file", STATE, cut::squeeze);
+        Check.due("power is still off", cut.isOn() ? 1 : 0, 0);
+        Check.due("refused calls write nothing", cut.writes(), before);
     }
 
     private static void squeezeCut() {
@@ -578,6 +586,39 @@ final class PromiseTests {
             v.cutAfter(0);
             Check.due("squeeze", v.squeeze(), 0);
         }
+    }
+
+    private static void mountLeavesOthers() {
+        SqueezedVolume v = Volumes.without(Volumes.filled(2, 3, 4), 1);
+        Check.due("a squeeze that ended", v.squeeze(), 7);
+        v.delete(2);
+        int before = v.writes();
+        v.cutAfter(0);
+        Check.due("another call", v.rename(3, 1), CUT);
+        Check.due("mount", v.mount(), 1);
+        Check.due("no squeeze is gone on with", v.writes(), before);
+        Check.due("layout", Volumes.layout(v), "-:3 p3:4 -:41");
+
+        v.cutAfter(2);
+        Check.due("a squeeze that is cut", v.squeeze(), CUT);
+        v.mount();
+        Check.due("layout", Volumes.layout(v), "p3:4 -:44");
+        Volumes.fill(v, 4, 2);
+        v.delete(3);
+        before = v.writes();
+        v.cutAfter(1);
+        Check.due("another call", v.delete(4), CUT);
+        Check.due("mount", v.mount(), 1);
+        Check.due("what mount ended is not gone on with", v.writes(), before + 1);
+        Check.due("layout", Volumes.layout(v), "-:4 p4:2 -:42");
+
+        v.cutAfter(0);
+        Check.due("a squeeze that did not begin", v.squeeze(), CUT);
+        v.mount();
+        v.cutAfter(0);
+        Check.due("another call", v.delete(4), CUT);
+        v.mount();
+        Check.due("layout", Volumes.layout(v), "-:4 p4:2 -:42");
     }
 
     private static void mountRefuses() {
@@ -679,6 +720,10 @@ final class PromiseTests {
         v.enter(3, 6);
         Check.due("without any", v.free(true), 0);
         Check.due("without any", v.free(false), 0);
+        SqueezedVolume lowest = Volumes.without(Volumes.filled(30, 10), 1);
+        Check.due("the lowest is the longest", lowest.free(true), 30);
+        SqueezedVolume middle = Volumes.without(Volumes.filled(3, 1, 30, 10), 1, 3);
+        Check.due("the longest is between", middle.free(true), 30);
         SqueezedVolume off = off();
         Check.thrown("power is off", STATE, () -> off.free(true));
         Check.thrown("power is off", STATE, () -> off.free(false));
