@@ -6,6 +6,8 @@ public final class AllTests {
     public static void main(String[] args) {
         FaceTests.runAll();
         PromiseTests.runAll();
+        TermEdgeTests.runAll();
+        PromiseEdgeTests.runAll();
         PowerCutTests.runAll();
         ModelTests.runAll();
         if (Check.report() != 0) {

@@ -61,4 +61,64 @@ final class Volumes {
         }
         return text.toString();
     }
+
+    /** All that can be seen of a volume without changing it, as one text. */
+    static String view(SqueezedVolume v) {
+        if (!v.isOn()) {
+            return "off, " + v.writes() + " writes";
+        }
+        StringBuilder text = new StringBuilder(layout(v));
+        for (int k = 0; k < v.entries(); k++) {
+            if (v.entry(k, 0) == 1) {
+                text.append(" h").append(v.entry(k, 3)).append('=').append(v.handle(v.entry(k, 3)));
+            }
+        }
+        return text.append(", ").append(v.entries()).append(" entries, free ").append(v.free(true)).append(" of ")
+                .append(v.free(false)).append(", ").append(v.writes()).append(" writes, ").append(content(v)).toString();
+    }
+
+    /** The ints of all 48 blocks, those of empty entries and tentative files too; all files are gone behind it. */
+    static String allInts(SqueezedVolume v) {
+        v.cutAfter(-1);
+        for (int files = 0; files < 16 && v.free(false) < 48; files++) {
+            dropLowest(v);
+        }
+        fillNothing(v, 999, 48);
+        return content(v);
+    }
+
+    /** The lowest file becomes empty: what the call answers. */
+    private static int dropLowest(SqueezedVolume v) {
+        int k = 0;
+        while (v.entry(k, 0) == 0) {
+            k++;
+        }
+        int name = v.entry(k, 3);
+        return v.entry(k, 0) == 1 ? v.purge(v.handle(name)) : v.delete(name);
+    }
+
+    /** Power fails in a call that changes nothing; there must be a file. */
+    static void turnOff(SqueezedVolume v) {
+        v.cutAfter(0);
+        Check.due("a call without power", dropLowest(v), SqueezedVolume.CUT);
+    }
+
+    /** Opens and closes a file that keeps what its blocks have. */
+    static void fillNothing(SqueezedVolume v, int name, int length) {
+        v.close(v.enter(name, length), length);
+    }
+
+    /** The call is refused with that exception, and behind it nothing that can be seen differs. */
+    static void refused(String what, Class<? extends RuntimeException> want, SqueezedVolume v, Check.Call call) {
+        String before = view(v);
+        Check.thrown(what, want, call);
+        Check.due("all behind " + what, view(v), before);
+    }
+
+    /** How many writes a call makes. */
+    static int spent(SqueezedVolume v, Check.Call call) {
+        int before = v.writes();
+        call.answer();
+        return v.writes() - before;
+    }
 }
