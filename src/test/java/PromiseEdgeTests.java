@@ -179,6 +179,11 @@ final class PromiseEdgeTests {
             Check.due("enter", v.enter(9, 0), 0);
             Check.due("half of " + one[0], v.entry(v.entries() - 2, 2), one[1]);
         }
+        SqueezedVolume v = new SqueezedVolume();
+        v.enter(9, 5);
+        v.purge(0);
+        v.enter(9, 0);
+        Check.due("an empty entry that was there is no second one", Volumes.layout(v), "t9:24 -:24");
     }
 
     private static void enterSecond() {

@@ -34,6 +34,7 @@ final class TermEdgeTests {
         Check.run("terms: empty neighbours become one behind close", TermEdgeTests::neighboursClosed);
         Check.run("terms: empty neighbours become one behind squeeze", TermEdgeTests::neighboursSqueezed);
         Check.run("terms: empty neighbours become one behind mount", TermEdgeTests::neighboursMounted);
+        Check.run("terms: entries that became one are gone", TermEdgeTests::goneEntries);
         Check.run("terms: at most 16 entries", TermEdgeTests::sixteenEntries);
         Check.run("terms: at most 4 tentative files, handles 0 .. 3", TermEdgeTests::fourTentative);
         Check.run("terms: no two permanent files have the same name", TermEdgeTests::oneOfAName);
@@ -59,6 +60,7 @@ final class TermEdgeTests {
         Check.run("terms: mounting, the group of the ledger again", TermEdgeTests::mountsGroupAgain);
         Check.run("terms: mounting, all that is left of a squeeze", TermEdgeTests::mountsRest);
         Check.run("terms: mounting, a squeeze that did not begin", TermEdgeTests::mountsNotBegun);
+        Check.run("terms: mounting, a squeeze that ended", TermEdgeTests::mountsEnded);
         Check.run("terms: mounting, tentative files by one change", TermEdgeTests::mountsTentative);
         Check.run("terms: power is off, first of all", TermEdgeTests::offFirst);
         Check.run("terms: refused calls without power leave what mount needs", TermEdgeTests::offLeaves);
@@ -265,6 +267,36 @@ final class TermEdgeTests {
         Volumes.turnOff(v);
         v.mount();
         Check.due("with the empty ones behind them", Volumes.layout(v), "-:2 p2:3 p3:4 -:39");
+    }
+
+    private static void goneEntries() {
+        SqueezedVolume v = Volumes.without(Volumes.filled(3, 4, 5, 36), 2);
+        v.delete(3);
+        Check.due("layout", Volumes.layout(v), "p1:3 -:9 p4:36");
+        Check.due("rename the last one", v.rename(4, 9), 0);
+        Volumes.refused("its name is gone", NO_ELEMENT, v, () -> v.read(4, 0));
+        Check.due("its name is free", v.rename(1, 4), 0);
+
+        SqueezedVolume purged = Volumes.filled(3);
+        purged.enter(5, 2);
+        purged.enter(6, 43);
+        purged.purge(0);
+        purged.purge(1);
+        Check.due("layout", Volumes.layout(purged), "p1:3 -:45");
+        Check.due("handle", purged.handle(6), -1);
+        Check.due("no tentative file refuses it", purged.squeeze(), 0);
+        Check.due("free", purged.free(false), 45);
+        Check.due("enter", purged.enter(7, 0), 0);
+        Check.due("half of 45, for there is no second one", Volumes.layout(purged), "p1:3 t7:22 -:23");
+        Volumes.turnOff(purged);
+        Check.due("permanent files", purged.mount(), 1);
+
+        SqueezedVolume deleted = Volumes.without(Volumes.filled(3, 4, 41), 2, 3);
+        Check.due("layout", Volumes.layout(deleted), "p1:3 -:45");
+        Volumes.turnOff(deleted);
+        Check.due("permanent files", deleted.mount(), 1);
+        Volumes.refused("the last one", NO_ELEMENT, deleted, () -> deleted.read(3, 0));
+        Volumes.refused("more than there are", UNSUPPORTED, deleted, () -> deleted.enter(9, 46));
     }
 
     private static void sixteenEntries() {
@@ -738,6 +770,33 @@ final class TermEdgeTests {
         Check.due("mount", v.mount(), 1);
         Check.due("nor later", Volumes.view(v), before);
         Check.due("a new squeeze", v.squeeze(), 3);
+    }
+
+    private static void mountsEnded() {
+        SqueezedVolume whole = Volumes.without(Volumes.filled(2, 3, 4), 1);
+        whole.squeeze();
+        dueLeftAlone("a squeeze", whole);
+        SqueezedVolume mounted = Volumes.without(Volumes.filled(2, 3, 4), 1);
+        mounted.cutAfter(9);
+        dueCut(mounted.squeeze());
+        mounted.mount();
+        dueLeftAlone("a squeeze that mount ended", mounted);
+        SqueezedVolume none = Volumes.filled(2, 3, 4);
+        none.delete(1);
+        Volumes.turnOff(none);
+        Check.due("no squeeze at all", Volumes.spent(none, none::mount), 0);
+        Check.due("layout", Volumes.layout(none), "-:2 p2:3 p3:4 -:39");
+    }
+
+    private static void dueLeftAlone(String what, SqueezedVolume v) {
+        Check.due("layout", Volumes.layout(v), "p2:3 p3:4 -:41");
+        v.delete(2);
+        for (int n = 0; n < 2; n++) {
+            v.cutAfter(n);
+            dueCut(v.rename(3, 5));
+            Check.due("mount behind " + what, Volumes.spent(v, v::mount), 0);
+            Check.due("layout", Volumes.layout(v), "-:3 p3:4 -:41");
+        }
     }
 
     private static void mountsTentative() {
