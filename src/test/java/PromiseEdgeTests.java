@@ -454,7 +454,7 @@ final class PromiseEdgeTests {
         Check.due("entries", between.entries(), 15);
     }
 
-    /** 16 entries: a tentative file of 2 blocks and an empty one of 1 before file 7, one of 6 with a name at the end. */
+    /** 16 entries: a tentative file of 2 and an empty one of 1 before file 7, and one of 6 with a name at the end. */
     private static SqueezedVolume sixteenWithGap(int name) {
         SqueezedVolume v = files(14, 3);
         v.delete(6);

@@ -74,7 +74,8 @@ final class Volumes {
             }
         }
         return text.append(", ").append(v.entries()).append(" entries, free ").append(v.free(true)).append(" of ")
-                .append(v.free(false)).append(", ").append(v.writes()).append(" writes, ").append(content(v)).toString();
+                .append(v.free(false)).append(", ").append(v.writes()).append(" writes, ").append(content(v))
+                .toString();
     }
 
     /** The ints of all 48 blocks, those of empty entries and tentative files too; all files are gone behind it. */
