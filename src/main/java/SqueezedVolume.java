@@ -70,7 +70,7 @@ public final class SqueezedVolume {
         if (length == 0 || k == NONE) {
             throw new UnsupportedOperationException("no empty entry is long enough");
         }
-        draftOpened(k, length, name, handle);
+        draftInPlaceOf(k, TENTATIVE, length, name, handle);
         requireFewEntries();
         return change() ? handle : CUT;
     }
@@ -121,10 +121,7 @@ public final class SqueezedVolume {
         if (directory.findPermanent(to) != NONE) {
             throw new UnsupportedOperationException("there is a permanent file with that name");
         }
-        draft.clear();
-        draft.addRange(directory, 0, k);
-        draft.add(PERMANENT, directory.lengthAt(k), to, NONE);
-        draft.addRange(directory, k + 1, directory.count());
+        draftInPlaceOf(k, PERMANENT, directory.lengthAt(k), to, NONE);
         return change() ? 0 : CUT;
     }
 
@@ -261,10 +258,11 @@ public final class SqueezedVolume {
         }
     }
 
-    private void draftOpened(int k, int length, int name, int handle) {
+    /** One entry gives way to another that begins there; what it was longer is empty. */
+    private void draftInPlaceOf(int k, int kind, int length, int name, int handle) {
         draft.clear();
         draft.addRange(directory, 0, k);
-        draft.add(TENTATIVE, length, name, handle);
+        draft.add(kind, length, name, handle);
         draft.addEmpty(directory.lengthAt(k) - length);
         draft.addRange(directory, k + 1, directory.count());
     }
@@ -306,10 +304,7 @@ public final class SqueezedVolume {
 
     private int makeEmpty(int k) {
         int length = directory.lengthAt(k);
-        draft.clear();
-        draft.addRange(directory, 0, k);
-        draft.addEmpty(length);
-        draft.addRange(directory, k + 1, directory.count());
+        draftInPlaceOf(k, EMPTY, length, NO_NAME, NONE);
         return change() ? length : CUT;
     }
 

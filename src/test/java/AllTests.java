@@ -5,6 +5,7 @@ public final class AllTests {
 
     public static void main(String[] args) {
         FaceTests.runAll();
+        ReadmeTests.runAll();
         PromiseTests.runAll();
         TermEdgeTests.runAll();
         PromiseEdgeTests.runAll();

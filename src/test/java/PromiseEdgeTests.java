@@ -66,15 +66,6 @@ final class PromiseEdgeTests {
         Check.run("17, edge: isOn before and behind", PromiseEdgeTests::isOnEdges);
     }
 
-    /** So many files of a length from block 0 on, with the names 1, 2, ..; the rest is empty. */
-    private static SqueezedVolume files(int count, int length) {
-        SqueezedVolume v = new SqueezedVolume();
-        for (int i = 0; i < count; i++) {
-            Volumes.fillNothing(v, i + 1, length);
-        }
-        return v;
-    }
-
     private static void newObject() {
         SqueezedVolume v = new SqueezedVolume();
         Check.due("view", Volumes.view(v), "-:48, 1 entries, free 48 of 48, 0 writes, ");
@@ -175,7 +166,7 @@ final class PromiseEdgeTests {
     private static void enterHalf() {
         int[][] due = {{48, 24}, {47, 23}, {5, 2}, {4, 2}, {3, 1}, {2, 1}};
         for (int[] one : due) {
-            SqueezedVolume v = one[0] == 48 ? new SqueezedVolume() : files(1, 48 - one[0]);
+            SqueezedVolume v = one[0] == 48 ? new SqueezedVolume() : Volumes.files(1, 48 - one[0]);
             Check.due("enter", v.enter(9, 0), 0);
             Check.due("half of " + one[0], v.entry(v.entries() - 2, 2), one[1]);
         }
@@ -220,13 +211,13 @@ final class PromiseEdgeTests {
     }
 
     private static void enterNothing() {
-        SqueezedVolume full = files(1, 48);
+        SqueezedVolume full = Volumes.files(1, 48);
         Volumes.refused("no empty block", UNSUPPORTED, full, () -> full.enter(9, 0));
         Volumes.refused("no empty block", UNSUPPORTED, full, () -> full.enter(9, 1));
-        SqueezedVolume one = files(1, 47);
+        SqueezedVolume one = Volumes.files(1, 47);
         Volumes.refused("half of 1", UNSUPPORTED, one, () -> one.enter(9, 0));
         Check.due("1 of 1", one.enter(9, 1), 0);
-        SqueezedVolume two = files(1, 46);
+        SqueezedVolume two = Volumes.files(1, 46);
         Check.due("half of 2", two.enter(9, 0), 0);
         Check.due("layout", Volumes.layout(two), "p1:46 t9:1 -:1");
     }
@@ -261,7 +252,7 @@ final class PromiseEdgeTests {
     }
 
     private static void enterFour() {
-        SqueezedVolume v = files(3, 2);
+        SqueezedVolume v = Volumes.files(3, 2);
         for (int i = 0; i < 4; i++) {
             Check.due("permanent ones do not count", v.enter(20 + i, 3), i);
         }
@@ -288,7 +279,7 @@ final class PromiseEdgeTests {
     }
 
     private static void enterSeventeen() {
-        SqueezedVolume v = files(15, 3);
+        SqueezedVolume v = Volumes.files(15, 3);
         Check.due("entries", v.entries(), 16);
         Volumes.refused("1 of 3", UNSUPPORTED, v, () -> v.enter(20, 1));
         Volumes.refused("2 of 3", UNSUPPORTED, v, () -> v.enter(20, 2));
@@ -417,7 +408,7 @@ final class PromiseEdgeTests {
             {1, 1, 1, 1}, {5, 1, 1, 5}, {1, 5, 5, 1}, {1, 5, 1, 5}, {5, 5, 5, 5}, {24, 24, 1, 47}, {47, 1, 1, 47},
         };
         for (int[] one : due) {
-            SqueezedVolume v = files(1, one[0]);
+            SqueezedVolume v = Volumes.files(1, one[0]);
             v.enter(1, one[1]);
             int before = v.free(false);
             Check.due("close", v.close(0, one[2]), one[3]);
@@ -427,7 +418,7 @@ final class PromiseEdgeTests {
     }
 
     private static void closeSeventeen() {
-        SqueezedVolume v = files(14, 3);
+        SqueezedVolume v = Volumes.files(14, 3);
         v.enter(20, 2);
         v.enter(21, 4);
         Check.due("entries", v.entries(), 16);
@@ -436,7 +427,7 @@ final class PromiseEdgeTests {
         Check.due("no more", v.close(0, 2), 0);
         Check.due("no more", v.close(1, 4), 0);
 
-        SqueezedVolume older = files(14, 3);
+        SqueezedVolume older = Volumes.files(14, 3);
         older.enter(20, 2);
         older.enter(7, 4);
         Volumes.refused("an older one and one more", UNSUPPORTED, older, () -> older.close(1, 3));
@@ -456,7 +447,7 @@ final class PromiseEdgeTests {
 
     /** 16 entries: a tentative file of 2 and an empty one of 1 before file 7, and one of 6 with a name at the end. */
     private static SqueezedVolume sixteenWithGap(int name) {
-        SqueezedVolume v = files(14, 3);
+        SqueezedVolume v = Volumes.files(14, 3);
         v.delete(6);
         v.enter(20, 2);
         v.enter(name, 6);
@@ -521,7 +512,7 @@ final class PromiseEdgeTests {
         v.enter(1, 3);
         Check.due("the permanent one of two with the name", v.delete(1), 4);
         Check.due("layout", Volumes.layout(v), "-:4 t1:3 -:39 t999:2");
-        SqueezedVolume all = files(1, 48);
+        SqueezedVolume all = Volumes.files(1, 48);
         Check.due("all", all.delete(1), 48);
         Check.due("layout", Volumes.layout(all), "-:48");
     }
@@ -616,7 +607,7 @@ final class PromiseEdgeTests {
             Check.due("with " + n + " of 6 writes", v.squeeze(), n < 6 ? CUT : 3);
             Check.due("isOn", v.isOn() ? 1 : 0, n < 6 ? 0 : 1);
         }
-        Check.due("nothing to move", files(3, 3).squeeze(), 0);
+        Check.due("nothing to move", Volumes.files(3, 3).squeeze(), 0);
     }
 
     private static void mountOn() {
@@ -648,14 +639,14 @@ final class PromiseEdgeTests {
 
     private static void mountAnswers() {
         for (int count : new int[] {0, 1, 2, 15, 16}) {
-            SqueezedVolume v = files(count, 3);
+            SqueezedVolume v = Volumes.files(count, 3);
             if (count == 0) {
                 v.enter(9, 1);
             }
             Volumes.turnOff(v);
             Check.due("permanent files", v.mount(), count);
         }
-        SqueezedVolume v = files(2, 3);
+        SqueezedVolume v = Volumes.files(2, 3);
         v.enter(1, 3);
         v.enter(9, 3);
         Volumes.turnOff(v);
@@ -667,7 +658,7 @@ final class PromiseEdgeTests {
             SqueezedVolume v = Volumes.filled(2);
             v.enter(9, 1);
             v.cutAfter(1);
-            Volumes.refused("n " + n, ARGUMENT, v, () -> cutAfter(v, n));
+            Volumes.refused("n " + n, ARGUMENT, v, () -> Volumes.cutAfter(v, n));
             Check.due("said before", v.put(0, 0, 1), 0);
             Check.due("said before", v.put(0, 0, 1), CUT);
         }
@@ -685,11 +676,6 @@ final class PromiseEdgeTests {
                 }
             }
         }
-    }
-
-    private static long cutAfter(SqueezedVolume v, int n) {
-        v.cutAfter(n);
-        return 0;
     }
 
     private static void cutAfterNow() {
@@ -743,7 +729,7 @@ final class PromiseEdgeTests {
 
     private static void entryBounds() {
         for (int count : new int[] {0, 1, 2, 15, 16}) {
-            SqueezedVolume v = files(count, 3);
+            SqueezedVolume v = Volumes.files(count, 3);
             int entries = v.entries();
             for (int k : new int[] {LEAST, -1, entries, entries + 1, 16, 17, 48, MOST}) {
                 for (int what = 0; what < 4; what++) {
@@ -754,7 +740,7 @@ final class PromiseEdgeTests {
             Check.due("the first", v.entry(0, 1), 0);
             Check.due("the last", v.entry(entries - 1, 1) + v.entry(entries - 1, 2), 48);
         }
-        SqueezedVolume v = files(3, 3);
+        SqueezedVolume v = Volumes.files(3, 3);
         Check.due("the fourth", v.entry(3, 0), 0);
         v.delete(3);
         Volumes.refused("there are fewer now", BOUNDS, v, () -> v.entry(3, 0));
@@ -782,7 +768,7 @@ final class PromiseEdgeTests {
         }
         Volumes.fillNothing(v, 16, 3);
         Check.due("with 16 files", v.entries(), 16);
-        Check.due("a full one", files(1, 48).entries(), 1);
+        Check.due("a full one", Volumes.files(1, 48).entries(), 1);
     }
 
     private static void freeBounds() {

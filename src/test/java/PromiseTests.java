@@ -656,17 +656,12 @@ final class PromiseTests {
         SqueezedVolume v = new SqueezedVolume();
         v.cutAfter(2);
         for (int n : new int[] {-2, -3, Integer.MIN_VALUE}) {
-            Check.thrown("n " + n, ARGUMENT, () -> cutAfter(v, n));
+            Check.thrown("n " + n, ARGUMENT, () -> Volumes.cutAfter(v, n));
         }
         Check.due("what was said before stands", v.enter(1, 1), 0);
         Check.due("what was said before stands", v.put(0, 0, 1), CUT);
-        Check.thrown("power is off", STATE, () -> cutAfter(v, 5));
-        Check.thrown("power is off, wrong n", STATE, () -> cutAfter(v, -2));
-    }
-
-    private static long cutAfter(SqueezedVolume v, int n) {
-        v.cutAfter(n);
-        return 0;
+        Check.thrown("power is off", STATE, () -> Volumes.cutAfter(v, 5));
+        Check.thrown("power is off, wrong n", STATE, () -> Volumes.cutAfter(v, -2));
     }
 
     private static void entryTells() {

@@ -300,7 +300,7 @@ final class TermEdgeTests {
     }
 
     private static void sixteenEntries() {
-        SqueezedVolume v = files(14, 2);
+        SqueezedVolume v = Volumes.files(14, 2);
         Check.due("entries", v.entries(), 15);
         Check.due("enter, the 16th", v.enter(20, 2), 0);
         Check.due("entries", v.entries(), 16);
@@ -356,25 +356,16 @@ final class TermEdgeTests {
         Check.due("one that is not made", Volumes.spent(v, () -> v.put(0, 0, 8)), 0);
     }
 
-    /** So many files of a length from block 0 on, with the names 1, 2, ..; the rest is empty. */
-    private static SqueezedVolume files(int count, int length) {
-        SqueezedVolume v = new SqueezedVolume();
-        for (int i = 0; i < count; i++) {
-            Volumes.fillNothing(v, i + 1, length);
-        }
-        return v;
-    }
-
     private static void renameWrites() {
         for (int entries = 2; entries <= 16; entries++) {
-            SqueezedVolume v = files(entries - 1, 3);
+            SqueezedVolume v = Volumes.files(entries - 1, 3);
             Check.due("rename with " + entries, Volumes.spent(v, () -> v.rename(1, 500)), CHANGE[entries]);
         }
     }
 
     private static void enterWrites() {
         for (int entries = 1; entries <= 15; entries++) {
-            SqueezedVolume v = files(entries - 1, 3);
+            SqueezedVolume v = Volumes.files(entries - 1, 3);
             int rest = v.free(true);
             String to = " from " + entries;
             Check.due("enter, one more" + to, Volumes.spent(v, () -> v.enter(500, rest - 1)), CHANGE[entries + 1]);
@@ -382,14 +373,14 @@ final class TermEdgeTests {
             Check.due("enter, all" + to, Volumes.spent(v, () -> v.enter(500, rest)), CHANGE[entries]);
             Check.due("purge, all" + to, Volumes.spent(v, () -> v.purge(0)), CHANGE[entries]);
         }
-        SqueezedVolume v = files(15, 3);
+        SqueezedVolume v = Volumes.files(15, 3);
         Check.due("16 entries", Volumes.spent(v, () -> v.enter(500, 3)), 5);
         Check.due("16 entries", Volumes.spent(v, () -> v.purge(0)), 5);
     }
 
     private static void closeWrites() {
         for (int entries = 2; entries <= 15; entries++) {
-            SqueezedVolume v = files(entries - 2, 3);
+            SqueezedVolume v = Volumes.files(entries - 2, 3);
             int rest = v.free(true);
             String to = " with " + entries;
             v.enter(500, rest - 1);
@@ -404,7 +395,7 @@ final class TermEdgeTests {
 
     private static void deleteWrites() {
         for (int entries = 3; entries <= 16; entries++) {
-            SqueezedVolume v = files(entries - 1, 3);
+            SqueezedVolume v = Volumes.files(entries - 1, 3);
             int last = entries - 1;
             Check.due("delete, as many", Volumes.spent(v, () -> v.delete(1)), CHANGE[entries]);
             Check.due("delete, one less", Volumes.spent(v, () -> v.delete(last)), CHANGE[entries - 1]);
@@ -418,7 +409,7 @@ final class TermEdgeTests {
 
     private static void squeezeWrites() {
         for (int entries = 2; entries <= 16; entries++) {
-            SqueezedVolume v = files(entries - 1, 1);
+            SqueezedVolume v = Volumes.files(entries - 1, 1);
             int rest = 48 - (entries - 1);
             v.enter(500, rest);
             v.close(0, rest);
@@ -427,7 +418,7 @@ final class TermEdgeTests {
             // By one block: a write of the ledger for each block.
             Check.due("squeeze with " + entries, Volumes.spent(v, v::squeeze), 2 * rest + CHANGE[entries]);
         }
-        SqueezedVolume v = files(15, 3);
+        SqueezedVolume v = Volumes.files(15, 3);
         v.delete(14);
         Check.due("entries", v.entries(), 16);
         Check.due("squeeze from 16 to 15", Volumes.spent(v, v::squeeze), 1 + 3 + CHANGE[15]);
@@ -441,7 +432,7 @@ final class TermEdgeTests {
 
     private static void mountWrites() {
         for (int entries = 2; entries <= 15; entries++) {
-            SqueezedVolume v = files(entries - 1, 3);
+            SqueezedVolume v = Volumes.files(entries - 1, 3);
             v.enter(500, 2);
             Volumes.turnOff(v);
             Check.due("mount, one less", Volumes.spent(v, v::mount), CHANGE[entries]);
@@ -466,7 +457,7 @@ final class TermEdgeTests {
         Ready five = () -> Volumes.filled(1, 2, 3, 4);
         dueHolds("delete", five, v -> v.delete(2), 0, "p1:1 p2:2 p3:3 p4:4 -:38", "p1:1 -:2 p3:3 p4:4 -:38");
         dueHolds("rename", five, v -> v.rename(2, 9), 0, "p1:1 p2:2 p3:3 p4:4 -:38", "p1:1 p9:2 p3:3 p4:4 -:38");
-        Ready full = () -> files(16, 3);
+        Ready full = () -> Volumes.files(16, 3);
         dueHolds("of 16 entries", full, v -> v.rename(16, 17), 0,
                 Volumes.layout(full.volume()), Volumes.layout(full.volume()).replace("p16", "p17"));
     }
@@ -525,7 +516,7 @@ final class TermEdgeTests {
         Volumes.refused("read", ARGUMENT, v, () -> v.read(1, 3));
         Volumes.refused("squeeze", STATE, v, v::squeeze);
         Volumes.refused("mount", STATE, v, v::mount);
-        Volumes.refused("cutAfter", ARGUMENT, v, () -> cutAfter(v, -2));
+        Volumes.refused("cutAfter", ARGUMENT, v, () -> Volumes.cutAfter(v, -2));
         Volumes.refused("entry", ARGUMENT, v, () -> v.entry(0, 4));
         Volumes.refused("entry", BOUNDS, v, () -> v.entry(5, 0));
         dueSame(v, same);
@@ -609,14 +600,14 @@ final class TermEdgeTests {
 
     private static void squeezesAsLong() {
         dueSqueeze("one empty entry alone", new SqueezedVolume(), 0, "-:48");
-        dueSqueeze("no empty entry", files(1, 48), 0, "p1:48");
-        dueSqueeze("an empty entry behind all", files(2, 3), 0, "p1:3 p2:3 -:42");
-        dueSqueeze("a file at the end", Volumes.without(files(2, 24), 1), 24, "p2:24 -:24");
+        dueSqueeze("no empty entry", Volumes.files(1, 48), 0, "p1:48");
+        dueSqueeze("an empty entry behind all", Volumes.files(2, 3), 0, "p1:3 p2:3 -:42");
+        dueSqueeze("a file at the end", Volumes.without(Volumes.files(2, 24), 1), 24, "p2:24 -:24");
         dueSqueeze("one empty block", Volumes.without(Volumes.filled(1, 47), 1), 47, "p2:47 -:1");
         dueSqueeze("one block", Volumes.without(Volumes.filled(47, 1), 1), 1, "p2:1 -:47");
-        dueSqueeze("several files behind it", Volumes.without(files(4, 12), 1), 36, "p2:12 p3:12 p4:12 -:12");
-        dueSqueeze("files before it stay", Volumes.without(files(4, 12), 3), 12, "p1:12 p2:12 p4:12 -:12");
-        dueSqueeze("every other", Volumes.without(files(16, 3), 1, 3, 5, 7, 9, 11, 13, 15), 24,
+        dueSqueeze("several files behind it", Volumes.without(Volumes.files(4, 12), 1), 36, "p2:12 p3:12 p4:12 -:12");
+        dueSqueeze("files before it stay", Volumes.without(Volumes.files(4, 12), 3), 12, "p1:12 p2:12 p4:12 -:12");
+        dueSqueeze("every other", Volumes.without(Volumes.files(16, 3), 1, 3, 5, 7, 9, 11, 13, 15), 24,
                 "p2:3 p4:3 p6:3 p8:3 p10:3 p12:3 p14:3 p16:3 -:24");
     }
 
@@ -844,7 +835,7 @@ final class TermEdgeTests {
             }
             Volumes.refused("purge", STATE, v, () -> v.purge(a));
             Volumes.refused("delete", STATE, v, () -> v.delete(a));
-            Volumes.refused("cutAfter", STATE, v, () -> cutAfter(v, a));
+            Volumes.refused("cutAfter", STATE, v, () -> Volumes.cutAfter(v, a));
             Volumes.refused("handle", STATE, v, () -> v.handle(a));
         }
         Volumes.refused("squeeze", STATE, v, v::squeeze);
@@ -873,11 +864,6 @@ final class TermEdgeTests {
         Check.due("all ints", Volumes.allInts(v), Volumes.allInts(same));
     }
 
-    private static long cutAfter(SqueezedVolume v, int n) {
-        v.cutAfter(n);
-        return 0;
-    }
-
     private static void exceptionOrder() {
         SqueezedVolume full = Volumes.filled(10);
         for (int i = 0; i < 4; i++) {
@@ -895,7 +881,7 @@ final class TermEdgeTests {
         Volumes.refused("read: name, block", NO_ELEMENT, full, () -> full.read(3, -1));
         Volumes.refused("read: block", ARGUMENT, full, () -> full.read(1, -1));
 
-        SqueezedVolume many = files(14, 3);
+        SqueezedVolume many = Volumes.files(14, 3);
         many.enter(20, 3);
         many.enter(21, 3);
         Check.due("entries", many.entries(), 16);

@@ -21,6 +21,15 @@ final class Volumes {
         return v;
     }
 
+    /** So many files of a length, with the names 1, 2, .., whose blocks keep what they have; the rest is empty. */
+    static SqueezedVolume files(int count, int length) {
+        SqueezedVolume v = new SqueezedVolume();
+        for (int i = 0; i < count; i++) {
+            fillNothing(v, i + 1, length);
+        }
+        return v;
+    }
+
     static SqueezedVolume without(SqueezedVolume v, int... names) {
         for (int name : names) {
             v.delete(name);
@@ -114,6 +123,12 @@ final class Volumes {
         String before = view(v);
         Check.thrown(what, want, call);
         Check.due("all behind " + what, view(v), before);
+    }
+
+    /** As a call with an answer, 0. */
+    static long cutAfter(SqueezedVolume v, int n) {
+        v.cutAfter(n);
+        return 0;
     }
 
     /** How many writes a call makes. */
